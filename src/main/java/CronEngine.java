@@ -439,9 +439,13 @@ public final class CronEngine {
   }
 
   private void addValues(int field, int a, int b, int step) {
-    for (int v = a; v <= b; v += step) {
-      int stored = field == F_DOW && v == 7 ? 0 : v;
-      sets[STAGED * FIELDS + field] |= 1L << stored;
+    int next = a;
+    for (int v = a; v <= b; v++) {
+      if (v == next) {
+        int stored = field == F_DOW && v == 7 ? 0 : v;
+        sets[STAGED * FIELDS + field] |= 1L << stored;
+        next += step;
+      }
     }
   }
 

@@ -18,6 +18,7 @@ public final class JobsTest {
     checkCompleteRefused();
     checkClock();
     checkStats();
+    checkNextTime();
     checkStatRefused();
     checkStatChangesNothing();
     Checks.end();
@@ -259,6 +260,25 @@ public final class JobsTest {
     Checks.compiles(x, "0 0 31 2 *");
     x.addJob(0, 0);
     Checks.due("a job that never fires", Checks.job(x, 3), "0 0 0 0 0 0 -1 0 0");
+  }
+
+  /** S_NEXT is what nextFire answers at the clock for the same schedule. */
+  private static void checkNextTime() {
+    String[] texts = {"59 23 31 12 *", "0 0 29 2 *", "30 6 13 * 5", "*/7 */5 */3 */2 */2", "* * * * *"};
+    for (String text : texts) {
+      CronEngine x = Checks.withStaged(4, text);
+      x.addJob(1, 0);
+      for (int clock : new int[] {1, 84959, 84960, 2188799, 2188800, CronEngine.MAXT - 1, CronEngine.MAXT}) {
+        x.advance(clock - x.getClock());
+        Checks.due("'" + text + "': S_NEXT at " + clock, x.jobStat(0, 6), x.nextFire(clock));
+      }
+    }
+    CronEngine x = Checks.withStaged(4, "59 23 31 12 *");
+    x.addJob(0, 0);
+    x.advance(CronEngine.MAXT - 1);
+    Checks.due("S_NEXT before the last time", x.jobStat(0, 6), CronEngine.MAXT);
+    Checks.due("advance(1) to the last time", x.advance(1), 1);
+    Checks.due("S_NEXT at the last time", x.jobStat(0, 6), CronEngine.NONE);
   }
 
   private static void checkStatRefused() {

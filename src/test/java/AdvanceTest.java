@@ -202,7 +202,7 @@ public final class AdvanceTest {
     x.advance(100000);
     Checks.due("the sets after advance", Checks.staged(x), schedule);
     Checks.due("textLength() after advance", x.textLength(), 5);
-    Checks.due("the empty slot after advance", Checks.job(x, 0), "-1 -1 -1 -1 -1 -1 -1 -1 -1");
+    Checks.due("the empty slot after advance", Checks.job(x, 0), Checks.EMPTY_SLOT);
     Checks.due("S_MISFIRE_POLICY after advance", x.jobStat(1, CronEngine.S_MISFIRE_POLICY), 1);
     Checks.due("S_CONCURRENCY_POLICY after advance", x.jobStat(1, CronEngine.S_CONCURRENCY_POLICY), 2);
     Checks.type(x, " 2 1");

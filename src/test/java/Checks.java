@@ -8,14 +8,20 @@ final class Checks {
     Integer.MIN_VALUE, Integer.MIN_VALUE + 1, -65, -64, -9, -8, -2, -1,
     64, 65, 128, 256, 65536, Integer.MAX_VALUE - 1, Integer.MAX_VALUE
   };
+  static final String EMPTY_SLOT = "-1 -1 -1 -1 -1 -1 -1 -1 -1";
+  private static int asked = 0;
   private static int wrong = 0;
+  private static int sentences = 0;
+  private static String heading = "";
+  private static String place = "";
 
   private Checks() {}
 
   static void due(String call, Object got, Object want) {
+    asked++;
     if (!got.equals(want)) {
       wrong++;
-      System.out.println(call + " answered " + got + ", due is " + want);
+      System.out.println(place + call + " answered " + got + ", due is " + want);
     }
   }
 
@@ -24,6 +30,28 @@ final class Checks {
       System.out.println(wrong + " answers are not as due");
       System.exit(1);
     }
+    if (sentences != 0) {
+      System.out.println(sentences + " sentences hold");
+    }
+  }
+
+  /** The heading of the document under which the sentences that follow stand. */
+  static void under(String words) {
+    heading = words;
+  }
+
+  /** A test of its own for one sentence of the document, which is quoted in the document's words. */
+  static void sentence(String words, Runnable test) {
+    int askedBefore = asked;
+    place = heading + ", '" + words + "': ";
+    sentences++;
+    try {
+      test.run();
+    } catch (RuntimeException fault) {
+      due("a call", fault, "no exception");
+    }
+    due("a test that asks something", asked > askedBefore, true);
+    place = "";
   }
 
   static int at(int year, int month, int day, int hour, int minute) {

@@ -1,12 +1,9 @@
 /** Promises 5 to 7: compile, fieldHas, dayStarred. */
 public final class CompileTest {
-  private static final String[] DEFAULTS = {"*", "*", "*", "*", "*"};
-  private static final int[] LOW = {0, 0, 1, 1, 0};
-  private static final int[] HIGH = {59, 23, 31, 12, 7};
-  private static final String[] MONTHS = {
-    "JAN", "FEB", "MAR", "APR", "MAY", "JUN", "JUL", "AUG", "SEP", "OCT", "NOV", "DEC"
-  };
-  private static final String[] WEEKDAYS = {"SUN", "MON", "TUE", "WED", "THU", "FRI", "SAT"};
+  private static final int[] LOW = Texts.LOW;
+  private static final int[] HIGH = Texts.HIGH;
+  private static final String[] MONTHS = Texts.MONTHS;
+  private static final String[] WEEKDAYS = Texts.WEEKDAYS;
 
   public static void main(String[] args) {
     checkSpacesAndFieldCount();
@@ -24,63 +21,38 @@ public final class CompileTest {
     Checks.end();
   }
 
-  private static String textWith(int field, String fieldText) {
-    String[] parts = DEFAULTS.clone();
-    parts[field] = fieldText;
-    return String.join(" ", parts);
-  }
-
-  private static void gives(int field, String fieldText, String values) {
-    CronEngine x = new CronEngine(1);
-    String text = textWith(field, fieldText);
-    Checks.due("compile of '" + text + "'", Checks.compiles(x, text), true);
-    Checks.due("the set of field " + field + " of '" + text + "'", Checks.set(x, field), values);
-  }
-
-  private static void rejects(int field, String fieldText) {
-    rejectsText(textWith(field, fieldText));
-  }
-
-  private static void rejectsText(String text) {
-    CronEngine x = Checks.withStaged(1, "* * * * *");
-    Checks.due("compile of '" + text + "'", Checks.compiles(x, text), false);
-    Checks.due("the sets after '" + text + "'", Checks.staged(x), "[][][][][]");
-    Checks.due("textLength() after '" + text + "'", x.textLength(), 0);
-  }
-
   private static void checkSpacesAndFieldCount() {
     String[] rejected = {
       "", " ", "     ", "*", "* *", "* * *", "* * * *", "* * * * * *", "* * * * * * *", "*****",
       "1 2 3 4", " 1 2 3 4 ", "1 2 3 4 5 6", "1 2 3 4 5 ,", "* * * * * x", "12345", "1,2,3,4,5"
     };
     for (String text : rejected) {
-      rejectsText(text);
+      Texts.rejectsText(text);
     }
     String[] accepted = {
       "1 2 3 4 5", " 1 2 3 4 5", "1 2 3 4 5 ", "   1  2   3    4     5   ", "01 02 03 04 05",
       " ".repeat(55) + "1 2 3 4 5", "1 2 3 4 5" + " ".repeat(55), "1 2" + " ".repeat(56) + "3 4 5"
     };
     for (String text : accepted) {
-      CronEngine x = Checks.withStaged(1, text);
-      Checks.due("the sets of '" + text + "'", Checks.staged(x), "[1][2][3][4][5]");
+      Texts.stages(text, "[1][2][3][4][5]");
     }
   }
 
   private static void checkSingleValues() {
     for (int field = 0; field < 5; field++) {
-      gives(field, "*", Checks.range(LOW[field], field == 4 ? 6 : HIGH[field], 1));
+      Texts.gives(field, "*", Checks.range(LOW[field], field == 4 ? 6 : HIGH[field], 1));
       for (int v = 0; v <= 99; v++) {
         String stored = String.valueOf(field == 4 && v == 7 ? 0 : v);
         String[] writings = v < 10 ? new String[] {"" + v, "0" + v} : new String[] {"" + v};
         for (String writing : writings) {
           if (v >= LOW[field] && v <= HIGH[field]) {
-            gives(field, writing, stored);
+            Texts.gives(field, writing, stored);
           } else {
-            rejects(field, writing);
-            rejects(field, writing + "/1");
-            rejects(field, writing + "-" + HIGH[field]);
-            rejects(field, LOW[field] + "-" + writing);
-            rejects(field, LOW[field] + "," + writing);
+            Texts.rejects(field, writing);
+            Texts.rejects(field, writing + "/1");
+            Texts.rejects(field, writing + "-" + HIGH[field]);
+            Texts.rejects(field, LOW[field] + "-" + writing);
+            Texts.rejects(field, LOW[field] + "," + writing);
           }
         }
       }
@@ -90,129 +62,129 @@ public final class CompileTest {
   private static void checkRanges() {
     for (int field = 0; field < 4; field++) {
       for (int a = LOW[field]; a <= HIGH[field]; a++) {
-        gives(field, a + "-" + HIGH[field], Checks.range(a, HIGH[field], 1));
-        gives(field, LOW[field] + "-" + a, Checks.range(LOW[field], a, 1));
-        gives(field, a + "-" + a, "" + a);
+        Texts.gives(field, a + "-" + HIGH[field], Checks.range(a, HIGH[field], 1));
+        Texts.gives(field, LOW[field] + "-" + a, Checks.range(LOW[field], a, 1));
+        Texts.gives(field, a + "-" + a, "" + a);
         if (a > LOW[field]) {
-          rejects(field, a + "-" + (a - 1));
-          rejects(field, a + "-" + (a - 1) + "/5");
+          Texts.rejects(field, a + "-" + (a - 1));
+          Texts.rejects(field, a + "-" + (a - 1) + "/5");
         }
       }
     }
-    gives(4, "0-6", "0 1 2 3 4 5 6");
-    gives(4, "0-7", "0 1 2 3 4 5 6");
-    gives(4, "5-7", "0 5 6");
-    gives(4, "7-7", "0");
-    gives(4, "0-0", "0");
-    gives(4, "0-07", "0 1 2 3 4 5 6");
-    rejects(4, "7-0");
-    rejects(4, "7-1");
-    rejects(4, "7-6");
-    rejects(4, "7-SAT");
-    rejects(4, "SAT-SUN");
-    gives(4, "SUN-7", "0 1 2 3 4 5 6");
-    rejects(0, "10-9");
-    rejects(0, "9-08");
-    gives(0, "9-10", "9 10");
+    Texts.gives(4, "0-6", "0 1 2 3 4 5 6");
+    Texts.gives(4, "0-7", "0 1 2 3 4 5 6");
+    Texts.gives(4, "5-7", "0 5 6");
+    Texts.gives(4, "7-7", "0");
+    Texts.gives(4, "0-0", "0");
+    Texts.gives(4, "0-07", "0 1 2 3 4 5 6");
+    Texts.rejects(4, "7-0");
+    Texts.rejects(4, "7-1");
+    Texts.rejects(4, "7-6");
+    Texts.rejects(4, "7-SAT");
+    Texts.rejects(4, "SAT-SUN");
+    Texts.gives(4, "SUN-7", "0 1 2 3 4 5 6");
+    Texts.rejects(0, "10-9");
+    Texts.rejects(0, "9-08");
+    Texts.gives(0, "9-10", "9 10");
   }
 
   private static void checkSteps() {
     for (int field = 0; field < 4; field++) {
       for (int step = 1; step <= 99; step++) {
-        gives(field, "*/" + step, Checks.range(LOW[field], HIGH[field], step));
-        gives(field, "5/" + step, Checks.range(5, HIGH[field], step));
-        gives(field, "2-11/" + step, Checks.range(2, 11, step));
+        Texts.gives(field, "*/" + step, Checks.range(LOW[field], HIGH[field], step));
+        Texts.gives(field, "5/" + step, Checks.range(5, HIGH[field], step));
+        Texts.gives(field, "2-11/" + step, Checks.range(2, 11, step));
       }
-      gives(field, HIGH[field] + "/1", "" + HIGH[field]);
-      gives(field, "*/01", Checks.range(LOW[field], HIGH[field], 1));
-      gives(field, "*/05", Checks.range(LOW[field], HIGH[field], 5));
+      Texts.gives(field, HIGH[field] + "/1", "" + HIGH[field]);
+      Texts.gives(field, "*/01", Checks.range(LOW[field], HIGH[field], 1));
+      Texts.gives(field, "*/05", Checks.range(LOW[field], HIGH[field], 5));
       for (String step : new String[] {"0", "00", "", "000", "001", "100", "-1", "+1", "*", "x", "1x", "MAR", "SUN"}) {
-        rejects(field, "*/" + step);
-        rejects(field, "5/" + step);
-        rejects(field, "2-11/" + step);
+        Texts.rejects(field, "*/" + step);
+        Texts.rejects(field, "5/" + step);
+        Texts.rejects(field, "2-11/" + step);
       }
     }
-    gives(4, "*/2", "0 2 4 6");
-    gives(4, "*/3", "0 3 6");
-    gives(4, "*/7", "0");
-    gives(4, "*/8", "0");
-    gives(4, "*/99", "0");
-    gives(4, "1/2", "0 1 3 5");
-    gives(4, "1/3", "0 1 4");
-    gives(4, "1-6/2", "1 3 5");
-    gives(4, "1-7/2", "0 1 3 5");
-    gives(4, "2-7/5", "0 2");
-    gives(4, "6/1", "0 6");
-    gives(4, "7/1", "0");
-    gives(4, "7/2", "0");
-    gives(4, "0/4", "0 4");
-    gives(4, "MON/3", "0 1 4");
-    gives(3, "feb/5", "2 7 12");
-    gives(3, "FEB-NOV/3", "2 5 8 11");
-    rejects(4, "*/0");
-    rejects(4, "1/00");
-    rejects(3, "*/MAR");
-    rejects(4, "*/MON");
+    Texts.gives(4, "*/2", "0 2 4 6");
+    Texts.gives(4, "*/3", "0 3 6");
+    Texts.gives(4, "*/7", "0");
+    Texts.gives(4, "*/8", "0");
+    Texts.gives(4, "*/99", "0");
+    Texts.gives(4, "1/2", "0 1 3 5");
+    Texts.gives(4, "1/3", "0 1 4");
+    Texts.gives(4, "1-6/2", "1 3 5");
+    Texts.gives(4, "1-7/2", "0 1 3 5");
+    Texts.gives(4, "2-7/5", "0 2");
+    Texts.gives(4, "6/1", "0 6");
+    Texts.gives(4, "7/1", "0");
+    Texts.gives(4, "7/2", "0");
+    Texts.gives(4, "0/4", "0 4");
+    Texts.gives(4, "MON/3", "0 1 4");
+    Texts.gives(3, "feb/5", "2 7 12");
+    Texts.gives(3, "FEB-NOV/3", "2 5 8 11");
+    Texts.rejects(4, "*/0");
+    Texts.rejects(4, "1/00");
+    Texts.rejects(3, "*/MAR");
+    Texts.rejects(4, "*/MON");
   }
 
   private static void checkLists() {
-    gives(0, "5,3,59,0", "0 3 5 59");
-    gives(0, "5,5,5", "5");
-    gives(0, "*,5", Checks.range(0, 59, 1));
-    gives(0, "5,*", Checks.range(0, 59, 1));
-    gives(0, "1-3,2-5,50/4", "1 2 3 4 5 50 54 58");
-    gives(1, "*/10,1", "0 1 10 20");
-    gives(1, "23/5,0,4-6/2", "0 4 6 23");
-    gives(2, "31,1,15-17", "1 15 16 17 31");
-    gives(3, "JAN,3,nov-DEC", "1 3 11 12");
-    gives(4, "0,7", "0");
-    gives(4, "FRI,7,1", "0 1 5");
-    gives(4, "2-3,WED-7/2,mon", "0 1 2 3 5");
+    Texts.gives(0, "5,3,59,0", "0 3 5 59");
+    Texts.gives(0, "5,5,5", "5");
+    Texts.gives(0, "*,5", Checks.range(0, 59, 1));
+    Texts.gives(0, "5,*", Checks.range(0, 59, 1));
+    Texts.gives(0, "1-3,2-5,50/4", "1 2 3 4 5 50 54 58");
+    Texts.gives(1, "*/10,1", "0 1 10 20");
+    Texts.gives(1, "23/5,0,4-6/2", "0 4 6 23");
+    Texts.gives(2, "31,1,15-17", "1 15 16 17 31");
+    Texts.gives(3, "JAN,3,nov-DEC", "1 3 11 12");
+    Texts.gives(4, "0,7", "0");
+    Texts.gives(4, "FRI,7,1", "0 1 5");
+    Texts.gives(4, "2-3,WED-7/2,mon", "0 1 2 3 5");
     // With the other fields this fills the text to its last character.
-    gives(0, "9," + Checks.range(0, 20, 1).replace(' ', ',') + ",9", Checks.range(0, 20, 1));
+    Texts.gives(0, "9," + Checks.range(0, 20, 1).replace(' ', ',') + ",9", Checks.range(0, 20, 1));
     for (int field = 0; field < 5; field++) {
       for (String list : new String[] {",", ",1", "1,", "1,,2", ",,", "*,", ",*", "1,2,", "1,2,,3", "1;2"}) {
-        rejects(field, list);
+        Texts.rejects(field, list);
       }
-      rejects(field, "1,61");
-      rejects(field, "61,1");
-      rejects(field, "1,3-2");
-      rejects(field, "3-2,1");
-      rejects(field, "1,*/0");
-      rejects(field, "*/0,1");
-      rejects(field, "1,x,2");
+      Texts.rejects(field, "1,61");
+      Texts.rejects(field, "61,1");
+      Texts.rejects(field, "1,3-2");
+      Texts.rejects(field, "3-2,1");
+      Texts.rejects(field, "1,*/0");
+      Texts.rejects(field, "*/0,1");
+      Texts.rejects(field, "1,x,2");
     }
   }
 
   private static void checkNames() {
     for (int i = 0; i < 12; i++) {
       for (String writing : writings(MONTHS[i])) {
-        gives(3, writing, "" + (i + 1));
-        gives(3, writing + "-12", Checks.range(i + 1, 12, 1));
-        gives(3, "1-" + writing, Checks.range(1, i + 1, 1));
+        Texts.gives(3, writing, "" + (i + 1));
+        Texts.gives(3, writing + "-12", Checks.range(i + 1, 12, 1));
+        Texts.gives(3, "1-" + writing, Checks.range(1, i + 1, 1));
       }
       for (int field : new int[] {0, 1, 2, 4}) {
-        rejects(field, MONTHS[i]);
+        Texts.rejects(field, MONTHS[i]);
       }
-      rejects(3, MONTHS[i].substring(0, 2));
-      rejects(3, MONTHS[i] + "A");
+      Texts.rejects(3, MONTHS[i].substring(0, 2));
+      Texts.rejects(3, MONTHS[i] + "A");
     }
     for (int i = 0; i < 7; i++) {
       for (String writing : writings(WEEKDAYS[i])) {
-        gives(4, writing, "" + i);
-        gives(4, writing + "-6", Checks.range(i, 6, 1));
-        gives(4, "0-" + writing, Checks.range(0, i, 1));
+        Texts.gives(4, writing, "" + i);
+        Texts.gives(4, writing + "-6", Checks.range(i, 6, 1));
+        Texts.gives(4, "0-" + writing, Checks.range(0, i, 1));
       }
       for (int field = 0; field < 4; field++) {
-        rejects(field, WEEKDAYS[i]);
+        Texts.rejects(field, WEEKDAYS[i]);
       }
-      rejects(4, WEEKDAYS[i].substring(0, 2));
-      rejects(4, WEEKDAYS[i] + "DAY");
+      Texts.rejects(4, WEEKDAYS[i].substring(0, 2));
+      Texts.rejects(4, WEEKDAYS[i] + "DAY");
     }
-    gives(3, "MAR-MAY", "3 4 5");
-    rejects(3, "MAY-MAR");
-    gives(4, "TUE-thu", "2 3 4");
-    rejects(4, "THU-TUE");
+    Texts.gives(3, "MAR-MAY", "3 4 5");
+    Texts.rejects(3, "MAY-MAR");
+    Texts.gives(4, "TUE-thu", "2 3 4");
+    Texts.rejects(4, "THU-TUE");
   }
 
   private static String[] writings(String name) {
@@ -234,7 +206,7 @@ public final class CompileTest {
             String other = name.substring(0, i) + c + name.substring(i + 1);
             CronEngine x = new CronEngine(1);
             boolean due = known.contains(other.toUpperCase());
-            Checks.due("compile with '" + other + "'", Checks.compiles(x, textWith(field, other)), due);
+            Checks.due("compile with '" + other + "'", Checks.compiles(x, Texts.with(field, other)), due);
           }
         }
       }
@@ -250,15 +222,15 @@ public final class CompileTest {
     };
     for (String fieldText : wrong) {
       for (int field = 0; field < 5; field++) {
-        rejects(field, fieldText);
+        Texts.rejects(field, fieldText);
       }
     }
     for (int c = 33; c <= 126; c++) {
       if (c != '*' && (c < '0' || c > '9')) {
         for (int field = 0; field < 5; field++) {
-          rejects(field, "" + (char) c);
-          rejects(field, "1" + (char) c);
-          rejects(field, "1-2/" + (char) c);
+          Texts.rejects(field, "" + (char) c);
+          Texts.rejects(field, "1" + (char) c);
+          Texts.rejects(field, "1-2/" + (char) c);
         }
       }
     }

@@ -21,7 +21,7 @@ public final class ConstructionTest {
     Checks.due(made + "nextFire(0)", x.nextFire(0), CronEngine.NONE);
     Checks.due(made + "addJob(0, 0)", x.addJob(0, 0), -1);
     for (int slot = 0; slot < CronEngine.MAX_JOBS; slot++) {
-      Checks.due(made + "job " + slot, Checks.job(x, slot), "-1 -1 -1 -1 -1 -1 -1 -1 -1");
+      Checks.due(made + "job " + slot, Checks.job(x, slot), Checks.EMPTY_SLOT);
       Checks.due(made + "complete(" + slot + ")", x.complete(slot), false);
       Checks.due(made + "removeJob(" + slot + ")", x.removeJob(slot), false);
     }

@@ -1,6 +1,6 @@
 /** Promises 11, 12, 14, 15 and 16: addJob, removeJob, complete, getClock, jobStat. */
 public final class JobsTest {
-  private static final String EMPTY = "-1 -1 -1 -1 -1 -1 -1 -1 -1";
+  private static final String EMPTY = Checks.EMPTY_SLOT;
   private static final int[] WRONG_SLOTS = {
     -1, -2, -8, 8, 9, 16, 256, Integer.MIN_VALUE, Integer.MAX_VALUE, Integer.MIN_VALUE + 3
   };
@@ -131,10 +131,10 @@ public final class JobsTest {
     Checks.type(x, "12 1");
     String schedule = Checks.staged(x);
     for (int slot : new int[] {3, 0, 7, 4}) {
-      String[] before = jobsOneByOne(x);
+      String[] before = States.slots(x);
       Checks.due("removeJob(" + slot + ")", x.removeJob(slot), true);
       before[slot] = EMPTY;
-      Checks.due("the jobs after removeJob", String.join("|", jobsOneByOne(x)), String.join("|", before));
+      States.slotsAre("after removeJob", x, before);
       Checks.due("removeJob(" + slot + ") again", x.removeJob(slot), false);
       Checks.due("complete(" + slot + ") of a removed job", x.complete(slot), false);
       Checks.due("the sets after removeJob", Checks.staged(x), schedule);
@@ -147,14 +147,6 @@ public final class JobsTest {
       x.removeJob(slot);
     }
     Checks.due("advance(9) with no job left", x.advance(9), 0);
-  }
-
-  private static String[] jobsOneByOne(CronEngine x) {
-    String[] all = new String[8];
-    for (int slot = 0; slot < 8; slot++) {
-      all[slot] = Checks.job(x, slot);
-    }
-    return all;
   }
 
   private static void checkRemoveRefused() {

@@ -31,6 +31,7 @@ public final class AdvanceEdgesTest {
     Checks.under("Promise 13: advance");
     Checks.sentence("for each occupied slot in ascending order", AdvanceEdgesTest::everyOccupiedSlot);
     Checks.sentence("`F` the set of times in `(c, c2]` matching `S`", AdvanceEdgesTest::openAndClosedEnd);
+    Checks.sentence("times in `(c, c2]`", AdvanceEdgesTest::turnsOfTheCalendar);
     Checks.sentence("If `k >= 1` and `next(S, c) < c2`, misfires increases by 1.", AdvanceEdgesTest::misfires);
   }
 
@@ -221,6 +222,36 @@ public final class AdvanceEdgesTest {
     advances(last, 5, 2);
     CronEngine zero = withJob(8, "0 0 1 1 *", ALL, ALLOW);
     advances(zero, MAXT, 7);
+  }
+
+  /** The first minute of each month, and of some days, as the new clock, as the old one and between the two. */
+  private static void turnsOfTheCalendar() {
+    for (int year = 2096; year <= 2103; year++) {
+      for (int month = year == 2096 ? 2 : 1; month <= 12; month++) {
+        turn("0 0 1 * *", Checks.at(year, month, 1, 0, 0));
+      }
+    }
+    turn("0 0 2 1 *", Checks.at(2096, 1, 2, 0, 0));
+    turn("0 0 29 2 *", Checks.at(2096, 2, 29, 0, 0));
+    turn("0 0 31 12 *", Checks.at(2103, 12, 31, 0, 0));
+    turn("0 0 * * SUN", Checks.at(2096, 1, 8, 0, 0));
+    turn("59 23 31 * *", Checks.at(2096, 1, 31, 23, 59));
+    turn("58 23 31 12 *", MAXT - 1);
+  }
+
+  private static void turn(String text, int time) {
+    for (int misfire = 0; misfire <= 2; misfire++) {
+      CronEngine x = withJob(8, text, misfire, ALLOW);
+      x.advance(time - 1);
+      int missed = x.jobStat(0, CronEngine.S_MISFIRES);
+      advances(x, 1, 1);
+      Checks.due("misfires at a time that is met", x.jobStat(0, CronEngine.S_MISFIRES), missed);
+      advances(x, 1, 0);
+      CronEngine y = withJob(8, text, misfire, ALLOW);
+      y.advance(time - 1);
+      advances(y, 2, misfire == SKIP ? 0 : 1);
+      Checks.due("misfires at a time that is passed", y.jobStat(0, CronEngine.S_MISFIRES), missed + 1);
+    }
   }
 
   private static void misfires() {

@@ -305,16 +305,19 @@ public final class CalendarEdgesTest {
   }
 
   private static void everyTimeComesBack() {
-    for (int t = 0; t <= MAXT; t++) {
-      int year = X.timeField(t, CronEngine.T_YEAR);
-      int month = X.timeField(t, CronEngine.T_MONTH);
-      int day = X.timeField(t, CronEngine.T_DAY);
-      int minute = X.timeField(t, CronEngine.T_HOUR) * 60 + X.timeField(t, CronEngine.T_MINUTE);
-      if (X.makeTime(year, month, day, minute) != t) {
-        made(year, month, day, minute, t);
-      }
+    int t = 0;
+    while (t <= MAXT && comesBack(t)) {
+      t++;
     }
-    Checks.due("makeTime of the parts of MAXT", X.makeTime(2103, 12, 31, 23 * 60 + 59), MAXT);
+    Checks.due("the first time that makeTime does not give back", t, MAXT + 1);
+  }
+
+  private static boolean comesBack(int t) {
+    int year = X.timeField(t, CronEngine.T_YEAR);
+    int month = X.timeField(t, CronEngine.T_MONTH);
+    int day = X.timeField(t, CronEngine.T_DAY);
+    int minute = X.timeField(t, CronEngine.T_HOUR) * 60 + X.timeField(t, CronEngine.T_MINUTE);
+    return X.makeTime(year, month, day, minute) == t;
   }
 
   private static void makeTimeChangesNothing() {

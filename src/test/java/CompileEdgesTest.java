@@ -127,17 +127,7 @@ public final class CompileEdgesTest {
   private static void jobsStay() {
     String[] texts = {"* * * * *", "1 2 3 4 5", "0 0 *,5 2 *", "wrong", "", "1 2 3 4 8", "1 2 3 4 5 6"};
     for (String text : texts) {
-      for (States.State state : States.ALL) {
-        CronEngine x = state.untyped().get();
-        CronEngine y = state.untyped().get();
-        Checks.compiles(x, text);
-        Checks.due("the jobs of " + state.name() + " after compile of '" + text + "'", Checks.jobs(x), Checks.jobs(y));
-        for (int n : new int[] {1, 59, 1440, 100000}) {
-          String call = "advance(" + n + ") of " + state.name() + " after compile of '" + text + "'";
-          Checks.due(call, x.advance(n), y.advance(n));
-          Checks.due("the jobs after " + call, Checks.jobs(x), Checks.jobs(y));
-        }
-      }
+      States.keepsClockAndJobs("compile of '" + text + "'", x -> Checks.compiles(x, text));
     }
   }
 

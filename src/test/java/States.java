@@ -1,5 +1,6 @@
 import java.util.List;
 import java.util.function.Consumer;
+import java.util.function.Function;
 import java.util.function.Supplier;
 
 /** Objects in states that differ in every part, and a way to see that calls on them changed nothing. */
@@ -15,6 +16,22 @@ final class States {
       new State("the last minute but one", () -> advanced(withJobs(2, 7), CronEngine.MAXT - 126), "1 2 3 4"),
       new State("the last minute", () -> advanced(withJobs(7, 4), CronEngine.MAXT), "1 2 3 4"));
 
+  private static final List<View> TEXT_VIEWS = List.of(
+      new View("textLength()", x -> "" + x.textLength()),
+      new View("the text compiled", x -> x.compile() + sets(x)),
+      new View("the text typed on and compiled", States::typedOn));
+  private static final List<View> STAGED_VIEWS = List.of(
+      new View("the sets", States::sets),
+      new View("the stars", x -> x.dayStarred(CronEngine.F_DOM) + " " + x.dayStarred(CronEngine.F_DOW)),
+      new View("the next firings", x -> x.nextFire(0) + " " + x.nextFire(125) + " " + x.nextFire(2000000)),
+      new View("a job added in the first place", States::readded));
+  private static final List<View> JOB_VIEWS = List.of(
+      new View("getClock()", x -> "" + x.getClock()),
+      new View("the jobs", Checks::jobs),
+      new View("the runs that can be completed", States::completable),
+      new View("the runs that time starts", States::startable),
+      new View("the jobs in the course of time", x -> startable(x) + Checks.jobs(x)));
+
   private States() {}
 
   record State(String name, Supplier<CronEngine> untyped, String text) {
@@ -25,19 +42,58 @@ final class States {
     }
   }
 
-  /** Jobs of all policies, each with runs behind it, at the clock 125. */
+  /** A part of an object, seen through few kinds of calls: harm that one does is seen by the views without it. */
+  private record View(String name, Function<CronEngine, String> look) {}
+
+  private static String sets(CronEngine x) {
+    StringBuilder all = new StringBuilder();
+    for (int field = 0; field < 5; field++) {
+      all.append('[').append(Checks.set(x, field)).append(']');
+    }
+    return all.toString();
+  }
+
+  private static String typedOn(CronEngine x) {
+    Checks.type(x, " 5");
+    return x.compile() + sets(x);
+  }
+
+  private static String completable(CronEngine x) {
+    StringBuilder all = new StringBuilder();
+    for (int slot = 0; slot < CronEngine.MAX_JOBS; slot++) {
+      int runs = 0;
+      while (runs < 1000 && x.complete(slot)) {
+        runs++;
+      }
+      all.append(' ').append(runs);
+    }
+    return all.toString();
+  }
+
+  private static String startable(CronEngine x) {
+    StringBuilder all = new StringBuilder();
+    for (int n : new int[] {1, 9, 60, 777, 20000}) {
+      all.append(' ').append(x.advance(n));
+    }
+    return all.toString();
+  }
+
+  private static String readded(CronEngine x) {
+    return x.removeJob(0) + " " + x.addJob(2, 0) + " " + x.advance(50000) + Checks.jobs(x);
+  }
+
+  /** Jobs of all policies, each with runs behind it, at the clock 125, and a schedule staged after all that. */
   static CronEngine withJobs(int cap, int count) {
     CronEngine x = new CronEngine(cap);
     for (int slot = 0; slot < count; slot++) {
       Checks.compiles(x, JOB_TEXTS[slot % 4]);
       x.addJob(2 - slot % 3, (slot + slot / 3) % 3);
     }
-    Checks.compiles(x, "*/7 3 *,2 * 1");
     x.advance(100);
     x.advance(20);
     x.advance(5);
     x.complete(0);
-    return x;
+    return compiled(x, "*/7 3 *,2 * 1");
   }
 
   /** All slots taken by jobs that fire every missed time, with each concurrency policy in turn. */
@@ -71,32 +127,29 @@ final class States {
     return x;
   }
 
-  /** What later calls answer: they show the characters of the text, the cap and the copies that jobs hold. */
-  static String future(CronEngine x) {
-    StringBuilder log = new StringBuilder(Checks.state(x));
-    for (int n : new int[] {1, 9, 60, 777, 20000}) {
-      log.append(' ').append(x.advance(n)).append(Checks.jobs(x));
+  /** Each view looks at two objects made for it alone, so that no look disturbs another. */
+  private static void same(List<View> views, String what, Supplier<CronEngine> one, Supplier<CronEngine> other) {
+    for (View view : views) {
+      CronEngine x = one.get();
+      CronEngine y = other.get();
+      Checks.due(view.name + " after " + what, view.look.apply(x), view.look.apply(y));
     }
-    for (int slot = 0; slot < CronEngine.MAX_JOBS; slot++) {
-      log.append(' ').append(x.complete(slot));
-    }
-    log.append(' ').append(x.removeJob(0)).append(' ').append(x.addJob(2, 0));
-    log.append(' ').append(x.advance(5000)).append(Checks.jobs(x));
-    Checks.type(x, " 5");
-    log.append(' ').append(x.textLength()).append(' ').append(x.compile()).append(Checks.staged(x));
-    return log.toString();
   }
 
-  static void same(String what, CronEngine x, CronEngine y) {
-    Checks.due(what + ": the same state", Checks.state(x), Checks.state(y));
-    Checks.due(what + ": the same later answers", future(x).equals(future(y)), true);
+  private static Supplier<CronEngine> with(Supplier<CronEngine> maker, Consumer<CronEngine> calls) {
+    return () -> {
+      CronEngine x = maker.get();
+      calls.accept(x);
+      return x;
+    };
   }
 
   /** Two objects led the same way, of which one gets the calls, are not to be told apart afterwards. */
   static void changesNothing(State state, String call, Consumer<CronEngine> calls) {
-    CronEngine x = state.make();
-    calls.accept(x);
-    same(call + " with " + state.name, x, state.make());
+    String what = call + " with " + state.name;
+    same(TEXT_VIEWS, what, with(state::make, calls), state::make);
+    same(STAGED_VIEWS, what, with(state::make, calls), state::make);
+    same(JOB_VIEWS, what, with(state::make, calls), state::make);
   }
 
   static void changesNothingAnywhere(String call, Consumer<CronEngine> calls) {
@@ -105,17 +158,24 @@ final class States {
     }
   }
 
-  /** The calls change the text alone, if they change anything. */
+  /** But for its text, an object that was typed into and called is like one in which nothing was ever typed. */
   static void changesOnlyTheText(String call, Consumer<CronEngine> calls) {
     for (State state : ALL) {
-      CronEngine x = state.make();
-      calls.accept(x);
-      CronEngine y = state.untyped.get();
-      Checks.due(call + " with " + state.name + ": the clock", x.getClock(), y.getClock());
-      Checks.due(call + " with " + state.name + ": the sets", Checks.staged(x), Checks.staged(y));
-      Checks.due(call + " with " + state.name + ": the jobs", Checks.jobs(x), Checks.jobs(y));
-      x.clearText();
-      same(call + " with " + state.name, x, y);
+      String what = call + " with " + state.name;
+      same(STAGED_VIEWS, what, with(state::make, calls), state.untyped);
+      same(JOB_VIEWS, what, with(state::make, calls), state.untyped);
+    }
+  }
+
+  static void emptiesTheText(String call, Consumer<CronEngine> calls) {
+    for (State state : ALL) {
+      same(TEXT_VIEWS, call + " with " + state.name, with(state::make, calls), state.untyped);
+    }
+  }
+
+  static void keepsClockAndJobs(String call, Consumer<CronEngine> calls) {
+    for (State state : ALL) {
+      same(JOB_VIEWS, call + " with " + state.name, with(state::make, calls), state.untyped);
     }
   }
 }

@@ -84,6 +84,7 @@ public final class TextEdgesTest {
       Checks.due("textLength() with " + state.name(), x.textLength(), 0);
       Checks.due("compile() with " + state.name(), x.compile(), false);
     }
+    States.emptiesTheText("clearText()", CronEngine::clearText);
   }
 
   private static void clearOfAnEmptyText() {
@@ -98,9 +99,8 @@ public final class TextEdgesTest {
     Checks.due("putChar('7') after that", x.putChar('7'), true);
     Checks.due("textLength() after that", x.textLength(), 1);
     for (States.State state : States.ALL) {
-      CronEngine y = state.untyped().get();
-      y.clearText();
-      States.same("clearText() of an empty text with " + state.name(), y, state.untyped().get());
+      States.State untyped = new States.State(state.name() + ", its text untyped", state.untyped(), "");
+      States.changesNothing(untyped, "clearText()", CronEngine::clearText);
     }
   }
 

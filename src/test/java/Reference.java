@@ -1,21 +1,26 @@
 import java.time.LocalDate;
-import java.util.ArrayList;
+import java.time.YearMonth;
+import java.time.temporal.ChronoUnit;
+import java.util.Arrays;
 import java.util.List;
-import java.util.TreeSet;
+import java.util.function.ToIntFunction;
 import java.util.regex.Matcher;
 import java.util.regex.Pattern;
 
-/** The document said a second time, with the means of the Java library and no eye to speed. */
+/** The document said a second time, with the means of the Java library. */
 final class Reference {
   private static final int MAXT = 4206239;
   private static final int[] LOW = {0, 0, 1, 1, 0};
   private static final int[] HIGH = {59, 23, 31, 12, 7};
-  private static final List<String> MONTHS =
+  private static final List<String> MONTH_NAMES =
       List.of("JAN", "FEB", "MAR", "APR", "MAY", "JUN", "JUL", "AUG", "SEP", "OCT", "NOV", "DEC");
-  private static final List<String> WEEKDAYS = List.of("SUN", "MON", "TUE", "WED", "THU", "FRI", "SAT");
+  private static final List<String> WEEKDAY_NAMES = List.of("SUN", "MON", "TUE", "WED", "THU", "FRI", "SAT");
   private static final Pattern ITEM = Pattern.compile(
       "(?:\\*|([0-9]{1,2}|[A-Za-z]{3})(?:-([0-9]{1,2}|[A-Za-z]{3}))?)(?:/([0-9]{1,2}))?");
   private static final LocalDate[] DATES = dates();
+  private static final int[] MONTHS = ofEachDate(LocalDate::getMonthValue);
+  private static final int[] DAYS = ofEachDate(LocalDate::getDayOfMonth);
+  private static final int[] WEEKDAYS = ofEachDate(date -> date.getDayOfWeek().getValue() % 7);
 
   private static LocalDate[] dates() {
     LocalDate[] all = new LocalDate[2921];
@@ -25,24 +30,29 @@ final class Reference {
     return all;
   }
 
+  private static int[] ofEachDate(ToIntFunction<LocalDate> part) {
+    return Arrays.stream(DATES).mapToInt(part).toArray();
+  }
+
   static final class Schedule {
-    final List<TreeSet<Integer>> sets = new ArrayList<>();
+    final boolean[][] sets = new boolean[5][60];
+    String text;
     boolean domStarred;
     boolean dowStarred;
 
-    boolean dayMatches(LocalDate date) {
-      boolean dom = sets.get(2).contains(date.getDayOfMonth());
-      boolean dow = sets.get(4).contains(date.getDayOfWeek().getValue() % 7);
-      return sets.get(3).contains(date.getMonthValue()) && (domStarred || dowStarred ? dom && dow : dom || dow);
+    boolean dayMatches(int d) {
+      boolean dom = sets[2][DAYS[d]];
+      boolean dow = sets[4][WEEKDAYS[d]];
+      return sets[3][MONTHS[d]] && (domStarred || dowStarred ? dom && dow : dom || dow);
     }
 
     boolean matches(int m) {
-      return sets.get(0).contains(m % 60) && sets.get(1).contains(m / 60 % 24) && dayMatches(DATES[m / 1440]);
+      return sets[0][m % 60] && sets[1][m / 60 % 24] && dayMatches(m / 1440);
     }
 
     int next(int t) {
       for (int m = t + 1; m <= MAXT; m++) {
-        if (!dayMatches(DATES[m / 1440])) {
+        if (!dayMatches(m / 1440)) {
           m += 1439 - m % 1440;
         } else if (matches(m)) {
           return m;
@@ -62,6 +72,20 @@ final class Reference {
     int dropped;
     int cancelled;
     int misfires;
+
+    Job copy() {
+      Job copy = new Job();
+      copy.schedule = schedule;
+      copy.misfire = misfire;
+      copy.concurrency = concurrency;
+      copy.running = running;
+      copy.started = started;
+      copy.completed = completed;
+      copy.dropped = dropped;
+      copy.cancelled = cancelled;
+      copy.misfires = misfires;
+      return copy;
+    }
 
     void trigger() {
       if (concurrency == 1 && running > 0) {
@@ -87,30 +111,39 @@ final class Reference {
     this.cap = Math.min(8, Math.max(1, cap));
   }
 
+  Reference copy() {
+    Reference copy = new Reference(cap);
+    copy.clock = clock;
+    copy.text = text;
+    copy.staged = staged;
+    for (int slot = 0; slot < jobs.length; slot++) {
+      copy.jobs[slot] = jobs[slot] == null ? null : jobs[slot].copy();
+    }
+    return copy;
+  }
+
   static Schedule parse(String text) {
     String[] fields = text.strip().split(" +");
     if (fields.length != 5) {
       return null;
     }
     Schedule schedule = new Schedule();
+    schedule.text = text;
     for (int field = 0; field < 5; field++) {
-      TreeSet<Integer> set = new TreeSet<>();
       for (String item : fields[field].split(",", -1)) {
-        if (!addItem(field, item, set)) {
+        if (!addItem(field, item, schedule.sets[field])) {
           return null;
         }
       }
-      if (field == 4 && set.remove(7)) {
-        set.add(0);
-      }
-      schedule.sets.add(set);
     }
+    schedule.sets[4][0] |= schedule.sets[4][7];
+    schedule.sets[4][7] = false;
     schedule.domStarred = fields[2].startsWith("*");
     schedule.dowStarred = fields[4].startsWith("*");
     return schedule;
   }
 
-  private static boolean addItem(int field, String item, TreeSet<Integer> set) {
+  private static boolean addItem(int field, String item, boolean[] set) {
     Matcher match = ITEM.matcher(item);
     if (!match.matches()) {
       return false;
@@ -130,7 +163,7 @@ final class Reference {
       return false;
     }
     for (int v = a; v <= b; v += step) {
-      set.add(v);
+      set[v] = true;
     }
     return true;
   }
@@ -139,10 +172,10 @@ final class Reference {
     if (Character.isDigit(atom.charAt(0))) {
       return Integer.parseInt(atom);
     }
-    if (field == 3 && MONTHS.contains(atom.toUpperCase())) {
-      return MONTHS.indexOf(atom.toUpperCase()) + 1;
+    if (field == 3 && MONTH_NAMES.contains(atom.toUpperCase())) {
+      return MONTH_NAMES.indexOf(atom.toUpperCase()) + 1;
     }
-    return field == 4 ? WEEKDAYS.indexOf(atom.toUpperCase()) : -1;
+    return field == 4 ? WEEKDAY_NAMES.indexOf(atom.toUpperCase()) : -1;
   }
 
   void clearText() {
@@ -168,7 +201,7 @@ final class Reference {
   }
 
   boolean fieldHas(int field, int v) {
-    return staged != null && field >= 0 && field <= 4 && staged.sets.get(field).contains(v);
+    return staged != null && field >= 0 && field <= 4 && v >= 0 && v < 60 && staged.sets[field][v];
   }
 
   boolean dayStarred(int field) {
@@ -177,6 +210,25 @@ final class Reference {
 
   int nextFire(int t) {
     return staged == null || t < 0 || t > MAXT ? -1 : staged.next(t);
+  }
+
+  int makeTime(int year, int month, int day, int minuteOfDay) {
+    if (year < 2096 || year > 2103 || month < 1 || month > 12 || minuteOfDay < 0 || minuteOfDay > 1439) {
+      return -1;
+    }
+    if (day < 1 || day > YearMonth.of(year, month).lengthOfMonth()) {
+      return -1;
+    }
+    return (int) DATES[0].until(LocalDate.of(year, month, day), ChronoUnit.DAYS) * 1440 + minuteOfDay;
+  }
+
+  int timeField(int t, int which) {
+    if (t < 0 || t > MAXT || which < 0 || which > 5) {
+      return -1;
+    }
+    int d = t / 1440;
+    int[] parts = {DATES[d].getYear(), MONTHS[d], DAYS[d], t / 60 % 24, t % 60, WEEKDAYS[d]};
+    return parts[which];
   }
 
   int addJob(int misfire, int concurrency) {
@@ -197,6 +249,11 @@ final class Reference {
 
   private Job job(int slot) {
     return slot < 0 || slot > 7 ? null : jobs[slot];
+  }
+
+  /** The text of the schedule that the job in a slot holds, or null if the slot is empty. */
+  String textOf(int slot) {
+    return job(slot) == null ? null : job(slot).schedule.text;
   }
 
   boolean removeJob(int slot) {

@@ -51,6 +51,7 @@ public final class LongRunsTest {
 
   private static void sentencesOnCompiling() {
     Checks.under("Promise 5: compile");
+    Checks.sentence("`compile()` parses the current text per Syntax.", LongRunsTest::onlyTheCurrentText);
     Checks.sentence("with field sets and starred flags per Meaning. It answers true.", LongRunsTest::accepted);
     Checks.sentence("even if one existed before. It answers false.", LongRunsTest::rejected);
     Checks.sentence("Jobs are unchanged, including the schedule copies they hold.", LongRunsTest::compileLeavesTheJobs);
@@ -305,6 +306,28 @@ public final class LongRunsTest {
   }
 
   // ---- promise 5 ----
+
+  /** What earlier texts left behind the end of this one does not count, and nothing does behind the last place. */
+  private static void onlyTheCurrentText() {
+    Twin twin = new Twin("", 1);
+    for (String text : new String[] {"* * * * 1,2-5/3,*/2", "0 1 2-3/4 * mon-fri/2,SUN", "1 2 3 JAN-DEC/12 *,7"}) {
+      for (int end = 0; end <= text.length(); end++) {
+        String part = text.substring(0, end);
+        for (char earlier : "*,-/ 05MNImni".toCharArray()) {
+          stagesAfter(earlier, part, twin);
+        }
+        stagesAfter(' ', " ".repeat(CronEngine.TEXT_CAP - end) + part, twin);
+      }
+    }
+  }
+
+  private static void stagesAfter(char earlier, String text, Twin twin) {
+    twin.type(String.valueOf(earlier).repeat(CronEngine.TEXT_CAP));
+    twin.clearText();
+    twin.type(text);
+    twin.compile();
+    twin.stagedLooksSame();
+  }
 
   private static void accepted() {
     Moments.each(twin -> {
